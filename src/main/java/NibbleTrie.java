@@ -544,8 +544,8 @@ public final class NibbleTrie {
         private static final int WALKING = 0;
         private static final int ENDED = 1;
         private static final int REFUSED = 2;
-        // Each branch but the last takes a nibble off, and at most one extension stands before each.
-        private static final int MOST_STEPS = 2 * (LONGEST_PATH + 1);
+        // Each step but the last takes a nibble or more off the path that is left.
+        private static final int MOST_STEPS = LONGEST_PATH + 1;
 
         final long[] words = new long[MOST_PROOF_WORDS];
         int length = 0;
@@ -619,7 +619,7 @@ public final class NibbleTrie {
             }
         }
 
-        private void followDigest(long digest) {
+        private void followDigest(long wanted) {
             int branch = next;
             int child = left == Path.EMPTY ? NONE : Path.nibble(left, 0);
             int place = branch;
@@ -634,7 +634,7 @@ public final class NibbleTrie {
                 }
                 place += 1 + (int) words[place];
             }
-            if (!has(place) || digest(words, branch, place + 1 - branch) != digest) {
+            if (!has(place) || digest(words, branch, place + 1 - branch) != wanted) {
                 state = REFUSED;
                 return;
             }

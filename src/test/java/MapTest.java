@@ -198,6 +198,16 @@ final class MapTest {
         counts(x, 4, 2, 3);
         x.put(0x1a, 1);
         counts(x, 4, 2, 4);
+        x.put(0x1bbcd, 0);
+        counts(x, 3, 1, 3);
+        x.put(0x1a, 0);
+        counts(x, 3, 1, 2);
+        x.put(0x1abce, 0);
+        counts(x, 2, 0, 1);
+        x.put(0x1bbce, 0);
+        counts(x, 1, 0, 0);
+        x.put(0x1abcd, 0);
+        counts(x, 0, 0, 0);
         D.due("count(-1)", x.count(-1), -1);
         D.due("count(3)", x.count(3), -1);
         D.due("count(MIN)", x.count(Integer.MIN_VALUE), -1);

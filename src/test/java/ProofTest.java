@@ -95,16 +95,9 @@ final class ProofTest {
         D.due("cut(), nothing changed", x.cut(), words - 1);
     }
 
-    /** Four branches on one way, as full as sixteen keys allow. */
     private static void promise14LongestProofs() {
         D.about("promise 14, long proofs");
-        NibbleTrie x = new NibbleTrie(1);
-        int[] keys = {0x10000, 0x10001, 0x10002, 0x10003, 0x10010, 0x10020, 0x10030, 0x10040,
-            0x10100, 0x10200, 0x10300, 0x10400, 0x11000, 0x12000, 0x13000, 0x14000};
-        for (int key : keys) {
-            x.put(key, key);
-        }
-        x.commit(99);
+        NibbleTrie x = longProof();
         D.due("prove(0, 0x10000)", x.prove(0, 0x10000), 2 + 4 * 17 + 16 * 2 + 3);
         D.due("verify", x.verify(x.rootAt(0), 0x10000, 0x10000), true);
     }
@@ -389,6 +382,7 @@ final class ProofTest {
         D.due("a leaf too long", x.verify(Words.digest(Words.digest(top)), 0x1abcd, 6), false);
     }
 
+    /** Four branches lie on the way of 0x10000, as full as sixteen keys allow. */
     private static NibbleTrie longProof() {
         NibbleTrie x = new NibbleTrie(1);
         int[] keys = {0x10000, 0x10001, 0x10002, 0x10003, 0x10010, 0x10020, 0x10030, 0x10040,

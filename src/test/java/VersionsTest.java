@@ -16,6 +16,7 @@ final class VersionsTest {
         promise10At();
         promise11RootAt();
         promise12Stored();
+        promise12BranchesThatAreAlike();
         promise13Uses();
         promise13UsesOfOneBranchInManyPlaces();
         sameDigestOfDifferentMaps();
@@ -108,6 +109,9 @@ final class VersionsTest {
         D.due("prove(0, 0x1b)", x.prove(0, 0x1b), 22);
         x.crash();
         D.due("word(0) after a crash", x.word(0), 1);
+        D.due("commit(9)", x.commit(9), 0);
+        D.due("word(0) after a commit", x.word(0), 1);
+        D.due("commit(0)", x.commit(0), -1);
         D.due("verify after a crash", x.verify(x.rootAt(0), 0x1b, 5), true);
     }
 
@@ -195,6 +199,32 @@ final class VersionsTest {
         x.commit(9);
         x.commit(9);
         D.due("stored() of empty maps", x.stored(), 0);
+    }
+
+    private static void promise12BranchesThatAreAlike() {
+        D.about("promise 12, branches that are alike but not one");
+        NibbleTrie x = new NibbleTrie(1);
+        x.put(0x1a0, 1);
+        x.put(0x1a1, 1);
+        x.put(0x1b0, 1);
+        x.put(0x1b2, 1);
+        D.due("commit(4), other paths", x.commit(4), 3);
+        D.due("stored(), other paths", x.stored(), 3);
+        x.put(0x1b2, 0);
+        x.put(0x1b1, 2);
+        D.due("commit(3), another value", x.commit(3), 2);
+        D.due("stored(), another value", x.stored(), 3);
+        x.put(0x1b1, 1);
+        x.put(0x1b2, 1);
+        D.due("commit(3), a path more behind", x.commit(3), 2);
+        D.due("stored(), a path more behind", x.stored(), 3);
+        x.put(0x1b2, 0);
+        x.put(0x1b, 1);
+        D.due("commit(3), a path more in front", x.commit(3), 2);
+        D.due("stored(), a path more in front", x.stored(), 3);
+        x.put(0x1b, 0);
+        D.due("commit(2), the same", x.commit(2), 1);
+        D.due("stored(), the same", x.stored(), 2);
     }
 
     private static void promise13Uses() {
