@@ -199,12 +199,9 @@ public final class NibbleTrie {
         keptNow = Math.min(keptNow + 1, kept.length);
     }
 
+    /** As long as there is no version, the trie at 0 has never been written and is the empty one. */
     private void goDown() {
-        if (keptNow == 0) {
-            working.becomeEmpty();
-        } else {
-            working.becomeLike(kept[0]);
-        }
+        working.becomeLike(kept[0]);
     }
 
     private static long digest(long[] words, int from, int many) {
@@ -242,7 +239,7 @@ public final class NibbleTrie {
         }
 
         static int nibble(int path, int place) {
-            return front(path, place + 1) & 15;
+            return (path >> (4 * (length(path) - place - 1))) & 15;
         }
 
         /** The path of the first nibbles, as many as told. */
@@ -277,7 +274,10 @@ public final class NibbleTrie {
         }
     }
 
-    /** A map, its rows in the order of the paths: paths that begin alike stand side by side. */
+    /**
+     * A map, its rows in the order of the paths: paths that begin alike stand side by side, and what
+     * the first and the last of some rows have in common, all rows between them have.
+     */
     private static final class PathMap {
         final int[] paths = new int[MOST_KEYS];
         final int[] values = new int[MOST_KEYS];
@@ -322,15 +322,8 @@ public final class NibbleTrie {
 
         void copy(PathMap other) {
             rows = other.rows;
-            for (int row = 0; row < rows; row++) {
-                paths[row] = other.paths[row];
-                values[row] = other.values[row];
-            }
-        }
-
-        /** How long the path is with which all rows from .. end - 1 begin. */
-        int commonLength(int from, int end) {
-            return Path.commonLength(paths[from], paths[end - 1]);
+            System.arraycopy(other.paths, 0, paths, 0, rows);
+            System.arraycopy(other.values, 0, values, 0, rows);
         }
 
         boolean endsAt(int row, int depth) {
@@ -384,14 +377,15 @@ public final class NibbleTrie {
             return before;
         }
 
-        void becomeEmpty() {
-            map.rows = 0;
-            list();
-        }
-
         void becomeLike(Trie other) {
             map.copy(other.map);
-            list();
+            leaves = other.leaves;
+            extensions = other.extensions;
+            branches = other.branches;
+            System.arraycopy(other.parent, 0, parent, 0, branches);
+            System.arraycopy(other.firstRow, 0, firstRow, 0, branches);
+            System.arraycopy(other.endRow, 0, endRow, 0, branches);
+            System.arraycopy(other.depth, 0, depth, 0, branches);
         }
 
         private void list() {
@@ -409,7 +403,7 @@ public final class NibbleTrie {
                 leaves++;
                 return;
             }
-            int common = map.commonLength(from, end);
+            int common = Path.commonLength(map.paths[from], map.paths[end - 1]);
             if (common > taken) {
                 extensions++;
             }
@@ -482,7 +476,7 @@ public final class NibbleTrie {
                 words[start + 1] = map.values[from];
                 return 2;
             }
-            int common = map.commonLength(from, end);
+            int common = Path.commonLength(map.paths[from], map.paths[end - 1]);
             long below = branchDigest(from, end, common);
             if (common == taken) {
                 words[start] = below;
