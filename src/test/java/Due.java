@@ -1,5 +1,8 @@
 /** Counts and prints the calls whose answers are not the ones that are due. */
 final class Due {
+    // One fault can make very many answers wrong; the first ones tell enough.
+    private static final int MOST_LINES = 200;
+
     private int wrong = 0;
     private int asked = 0;
     private String about = "";
@@ -13,7 +16,9 @@ final class Due {
         asked++;
         if (got != want) {
             wrong++;
-            System.out.println(about + ": " + call + " answered " + got + ", due is " + want);
+            if (wrong <= MOST_LINES) {
+                System.out.println(about + ": " + call + " answered " + got + ", due is " + want);
+            }
         }
     }
 
